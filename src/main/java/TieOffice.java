@@ -411,6 +411,8 @@ public final class TieOffice {
     /** Every change of the net ends here, so that the questions can answer from one reckoning. */
     private void settle() {
         flow.work(net, net.closed);
+        search.forget();
+        relight.forget();
     }
 
     private int condition(int l) {
@@ -771,12 +773,18 @@ public final class TieOffice {
             radial = true;
             queued = 0;
             seen = 0;
-            grow(net, net.feeders);
+            for (int v = 0; v < MOST_PLACES; v++) {
+                if (net.isFeeder(v)) {
+                    enqueue(v, v, NONE, 0);
+                }
+            }
+            growFrom(net, 0);
             lit = seen;
             int litCount = queued;
             for (int v = 0; v < MOST_PLACES; v++) {
                 if ((net.there & ~seen & 1 << v) != 0) {
-                    grow(net, 1 << v);
+                    enqueue(v, v, NONE, 0);
+                    growFrom(net, queued - 1);
                 }
             }
             carry(net, litCount);
@@ -821,16 +829,9 @@ public final class TieOffice {
             return sum;
         }
 
-        private void grow(Net net, int roots) {
-            int next = queued;
-            for (int v = 0; v < MOST_PLACES; v++) {
-                if ((roots >> v & 1) != 0) {
-                    enqueue(v, v, NONE, 0);
-                }
-            }
-            while (next < queued && next < MOST_PLACES) {
-                spread(net, queue[next]);
-                next++;
+        private void growFrom(Net net, int begin) {
+            for (int i = begin; i < queued && i < MOST_PLACES; i++) {
+                spread(net, queue[i]);
             }
         }
 
@@ -1030,8 +1031,8 @@ public final class TieOffice {
 
     /** The SHAPES that are REACHED, in the order of the fewest EXCHANGES to them. */
     private static final class Search {
-        private static final int SLOTS = 1024;
-        private static final int SLOT_SHIFT = 22;
+        private static final int SLOTS = 512;
+        private static final int SLOT_SHIFT = 23;
 
         int count = 0;
         boolean spent = false;
@@ -1042,8 +1043,18 @@ public final class TieOffice {
         private final int[] slots = new int[SLOTS];
         private final Flow shapeFlow = new Flow();
         private final Ring ringOfTie = new Ring();
+        /** For how many EXCHANGES the answers stand; NONE: for none. */
+        private int known = NONE;
+
+        void forget() {
+            known = NONE;
+        }
 
         void explore(Net net, int n) {
+            if (known == n) {
+                return;
+            }
+            known = n;
             count = 0;
             spent = false;
             Arrays.fill(slots, 0);
@@ -1118,10 +1129,21 @@ public final class TieOffice {
         /** A bit for each set of candidates: whether it leaves the net RADIAL and BEARS. */
         private final int[] sound = new int[(1 << MOST_CURE_TIES) / 32];
         private final Flow setFlow = new Flow();
+        private boolean known = false;
+        private boolean spent = false;
+
+        void forget() {
+            known = false;
+        }
 
         /** False if there are too many TIES to look at. */
         boolean find(Net net, Flow now) {
-            if (!gather(net, now)) {
+            if (known) {
+                return !spent;
+            }
+            known = true;
+            spent = !gather(net, now);
+            if (spent) {
                 return false;
             }
             Arrays.fill(sound, 0);

@@ -94,7 +94,7 @@ public final class ModelTest {
 
     private boolean step() {
         int kind = pick(40);
-        if (kind < 22) return changes(kind) && digest();
+        if (kind < 22) return changes(kind) && digest() && asksAgain();
         if (kind == 39 && model.text.length() < 190) {
             int c = odd(pick(130));
             return due("type(" + c + ")", office.type(c), model.type(c)) && reads();
@@ -144,6 +144,14 @@ public final class ModelTest {
                 want = model.back(); note(want, 10, 31);
                 return due("back()", office.back(), want);
         }
+    }
+
+    /** The dear answers, so that one that was kept too long shows. */
+    private boolean asksAgain() {
+        if (pick(3) > 0) return true;
+        int what = pick(3);
+        return due("cure(" + what + ", 0)", office.cure(what, 0), model.cure(what, 0))
+            && due("reach(2, " + what + ")", office.reach(2, what), model.reach(2, what));
     }
 
     private void note(long want, int done, int full) {

@@ -1,53 +1,5 @@
 /** Each promise of the document by cases worked out by hand: the ordinary, the edges, the wrong. */
-public final class PromiseTest {
-    private static final int NONE = -1, BAD = -2, NO = -3, FULL = -4, SPENT = -5;
-    private static final int LOW = Integer.MIN_VALUE, HIGH = Integer.MAX_VALUE;
-
-    /**
-     * FEEDERS a, d. LINES: 0 a-b, 1 b-c, 2 d-e CLOSED; 3 c-e, 4 a-d OPEN.
-     * FLOWS 30, 20, 5; LOSS 2*900 + 1*400 + 3*25 = 2275.
-     */
-    private static final String TWO = "a;d;b10;c20;e5;+ab2,50;+bc1,20;+de3,10;-ce1,40;-ad1,9;";
-    /** A chain a-b-c-d, a TIE back to a: opening b-c (2) or c-d (1) gains the same. */
-    private static final String LOOP = "a;b3;c3;d3;+ab1,99;+cd1,99;+bc1,99;-ad1,99;";
-
-    private static int wrong = 0;
-    private static int promise = 0;
-    private static int row = 0;
-
-    private static void due(long got, long want) {
-        row++;
-        if (got != want) {
-            wrong++;
-            System.out.println("promise " + promise + ", row " + row + ": answered " + got + ", due is " + want);
-        }
-    }
-
-    private static void begin(int number) { promise = number; row = 0; }
-
-    private static TieOffice of(String text) {
-        TieOffice x = new TieOffice();
-        types(x, text);
-        if (x.reads() < 0) throw new IllegalStateException(text);
-        return x;
-    }
-
-    private static void types(TieOffice x, String text) {
-        x.clear();
-        for (char c : text.toCharArray()) x.type(c);
-    }
-
-    /** The place of the FAULT; -1: none. A FAULT changes and counts nothing. */
-    private static int fault(String text) {
-        TieOffice x = of(TWO);
-        types(x, text);
-        long before = x.digest();
-        int answer = x.reads();
-        if (answer >= 0) return -1;
-        due(x.digest(), before);
-        return -10 - answer;
-    }
-
+public final class PromiseTest extends Checks {
     public static void main(String[] args) {
         newObject();
         texts();
@@ -74,12 +26,11 @@ public final class PromiseTest {
         backs();
         tolds();
         digests();
-        if (wrong == 0) System.out.println("PromiseTest: all answers are as due");
-        System.exit(wrong == 0 ? 0 : 1);
+        end("PromiseTest");
     }
 
     private static void newObject() {
-        begin(1);
+        says(1, "by hand");
         TieOffice x = new TieOffice();
         for (int i = 0; i <= 7; i++) due(x.told(i), 0);
         for (int i = 0; i <= 7; i++) due(x.all(i), 0);
@@ -99,7 +50,7 @@ public final class PromiseTest {
     }
 
     private static void texts() {
-        begin(2);
+        says(2, "by hand");
         TieOffice x = new TieOffice();
         due(x.type(-1), BAD);
         due(x.type(128), BAD);
@@ -113,13 +64,13 @@ public final class PromiseTest {
         due(x.told(4), 200);
         due(x.told(0), 5);
         due(x.told(2), 1);
-        begin(3);
+        says(3, "by hand");
         due(x.clear(), 200);
         due(x.clear(), 0);
         due(x.type('a'), 1);
         due(x.type(';'), 2);
         due(x.told(7), 0);
-        begin(4);
+        says(4, "by hand");
         due(x.reads(), 1);
         due(x.told(4), 2);
         due(x.told(5), 1);
@@ -141,7 +92,7 @@ public final class PromiseTest {
     }
 
     private static void faults() {
-        begin(4);
+        says(4, "by hand");
         due(fault(""), -1);
         due(fault(";"), 0);
         due(fault("q;"), 0);
@@ -221,7 +172,7 @@ public final class PromiseTest {
     }
 
     private static void lines() {
-        begin(5);
+        says(5, "by hand");
         TieOffice x = of(TWO);
         rows(x, 0, 0, 1, 2, 50, 1, 30, 0, 0);
         rows(x, 1, 1, 2, 1, 20, 1, 20, 1, 0);
@@ -251,7 +202,7 @@ public final class PromiseTest {
     }
 
     private static void places() {
-        begin(6);
+        says(6, "by hand");
         TieOffice x = of(TWO);
         placeRow(x, 0, NONE, 0, NONE, 0, 30);
         placeRow(x, 1, 10, 0, 0, 1, 30);
@@ -276,7 +227,7 @@ public final class PromiseTest {
     }
 
     private static void betweens() {
-        begin(7);
+        says(7, "by hand");
         TieOffice x = of(TWO);
         due(x.between(0, 1), 0);
         due(x.between(1, 0), 0);
@@ -293,7 +244,7 @@ public final class PromiseTest {
     }
 
     private static void loads() {
-        begin(8);
+        says(8, "by hand");
         TieOffice x = of(TWO);
         due(x.load(4, 10), 5);
         due(x.line(2, 5), 10);
@@ -326,7 +277,7 @@ public final class PromiseTest {
     }
 
     private static void closing() {
-        begin(9);
+        says(9, "by hand");
         TieOffice x = of("a;d;b10;c20;e5;-ab2,30;+bc1,20;-de3,4;-ce1,40;-ad1,9;-ac1,99;");
         due(x.closes(4), NO);
         due(x.closes(1), NO);
@@ -358,7 +309,7 @@ public final class PromiseTest {
     }
 
     private static void opening() {
-        begin(10);
+        says(10, "by hand");
         TieOffice x = of(TWO);
         due(x.opens(1), 20);
         due(x.opens(0), 10);
@@ -373,7 +324,7 @@ public final class PromiseTest {
     }
 
     private static void falling() {
-        begin(11);
+        says(11, "by hand");
         TieOffice x = of(TWO);
         due(x.falls(0), 30);
         due(x.falls(1), 0);
@@ -391,7 +342,7 @@ public final class PromiseTest {
     }
 
     private static void mending() {
-        begin(12);
+        says(12, "by hand");
         TieOffice x = of(TWO);
         x.falls(0);
         x.falls(3);
@@ -408,7 +359,7 @@ public final class PromiseTest {
     }
 
     private static void rings() {
-        begin(13);
+        says(13, "by hand");
         TieOffice x = of(TWO);
         due(x.ring(3, 0), 1);
         due(x.ring(3, 1), 0);
@@ -448,7 +399,7 @@ public final class PromiseTest {
     }
 
     private static void gains() {
-        begin(14);
+        says(14, "by hand");
         TieOffice x = of(TWO);
         // 2*100 + 3*625 + 1*400 = 2475; 1*100 + 1*900 + 3*1225 = 4675; 2*1225 + 625 + 25 = 3100.
         due(x.gain(3, 1), -200);
@@ -486,7 +437,7 @@ public final class PromiseTest {
     }
 
     private static void exchanging() {
-        begin(15);
+        says(15, "by hand");
         TieOffice x = of(TWO);
         due(x.exchanges(3, 1), FULL);
         due(x.exchanges(3, 2), FULL);
@@ -519,7 +470,7 @@ public final class PromiseTest {
     }
 
     private static void bests() {
-        begin(16);
+        says(16, "by hand");
         TieOffice x = of(LOOP);
         due(x.best(0), 3);
         due(x.best(1), 1);
@@ -542,7 +493,7 @@ public final class PromiseTest {
     }
 
     private static void lessening() {
-        begin(17);
+        says(17, "by hand");
         TieOffice x = of(LOOP);
         due(x.lessens(), 1);
         due(x.all(0), 54);
@@ -561,7 +512,7 @@ public final class PromiseTest {
     }
 
     private static void reaching() {
-        begin(18);
+        says(18, "by hand");
         TieOffice x = of(LOOP);
         due(x.reach(0, 0), 1);
         due(x.reach(0, 1), 126);
@@ -624,7 +575,7 @@ public final class PromiseTest {
     }
 
     private static void curing() {
-        begin(19);
+        says(19, "by hand");
         // b-c in the dark; by a-b (1) both are LIT, the TIE between them is the lower one.
         TieOffice x = of("a;b4;c5;-bc1,9;-ab1,9;");
         due(x.cure(0, 0), 3);
@@ -667,15 +618,8 @@ public final class PromiseTest {
         due(w.cure(0, 0), 2);
     }
 
-    private static String star(int customers) {
-        StringBuilder text = new StringBuilder("a;");
-        for (int i = 1; i <= customers; i++) text.append((char) ('a' + i)).append("1;");
-        for (int i = 1; i <= customers; i++) text.append("-a").append((char) ('a' + i)).append("1,9;");
-        return text.toString();
-    }
-
     private static void curingDone() {
-        begin(20);
+        says(20, "by hand");
         TieOffice x = of("a;b4;c5;-bc1,9;-ab1,9;");
         due(x.cures(), 2);
         due(x.told(7), 2);
@@ -704,7 +648,7 @@ public final class PromiseTest {
     }
 
     private static void sums() {
-        begin(21);
+        says(21, "by hand");
         TieOffice x = of(TWO);
         long[] ahead = {2275, 35, 0, 2, 0, 0, 0, 2200};
         for (int i = 0; i <= 7; i++) due(x.all(i), ahead[i]);
@@ -728,7 +672,7 @@ public final class PromiseTest {
     }
 
     private static void backs() {
-        begin(22);
+        says(22, "by hand");
         TieOffice x = of(TWO);
         due(x.load(4, 6), 5);
         long first = x.digest();
@@ -760,7 +704,7 @@ public final class PromiseTest {
     }
 
     private static void tolds() {
-        begin(23);
+        says(23, "by hand");
         TieOffice x = of(TWO);
         due(x.told(4), TWO.length());
         due(x.told(5), 5);
@@ -778,7 +722,7 @@ public final class PromiseTest {
     }
 
     private static void digests() {
-        begin(24);
+        says(24, "by hand");
         long h = 2267;
         for (int i = 0; i < 16; i++) h *= 31;
         due(new TieOffice().digest(), h);

@@ -74,6 +74,13 @@ abstract class Checks {
         due(x.digest() - before, once);
     }
 
+    /** The same net with each letter so many later, p followed by a: its PLACES are others, nothing else is. */
+    static String turned(String text, int by) {
+        StringBuilder other = new StringBuilder();
+        for (char c : text.toCharArray()) other.append(c < 'a' ? c : (char) ('a' + (c - 'a' + by) % 16));
+        return other.toString();
+    }
+
     /** A CUSTOMER each of LOAD n for b and so many behind it, CLOSED LINES from a on, one behind the other. */
     static String chain(int customers, int n, String line) {
         StringBuilder text = new StringBuilder("a;");

@@ -113,10 +113,25 @@ public final class EdgeExchangeTest extends Checks {
         says(13, "none: no way from LIT to DARK");
         TieOffice z = of("a;b1;c1;+bc1,9;-ab1,9;");
         due(z.ring(1, 0), NONE);
+        TieOffice far = of("a;b1;c1;d1;e1;+bc1,9;+ad1,9;-ac1,9;-dc1,9;-ce1,9;");
+        due(far.ring(2, 0), NONE);
+        due(far.ring(3, 0), NONE);
+        due(far.ring(4, 0), NONE);
         says(13, "none: no way in the dark");
         TieOffice w = of("b1;c1;d1;e1;+bc1,9;+de1,9;-cd1,9;");
         due(w.ring(2, 0), NONE);
         due(w.told(1), 0);
+        says(13, "none: the way that there was is OPEN");
+        for (int turn = 0; turn < 16; turn++) {
+            TieOffice u = of(turned("a1;b1;c1;+ab1,9;+bc1,9;-ac1,9;", turn));
+            due(u.ring(2, 0), 0);
+            u.opens(0);
+            due(u.ring(2, 0), NONE);
+            due(u.ring(0, 0), NONE);
+            u.opens(1);
+            due(u.ring(0, 0), NONE);
+            due(u.ring(1, 0), NONE);
+        }
         says(13, "none: two PLACES without LINES");
         due(of("b1;c1;-bc1,9;").ring(0, 0), NONE);
         due(of("a;c1;-ac1,9;").ring(0, 0), NONE);
@@ -236,6 +251,18 @@ public final class EdgeExchangeTest extends Checks {
         due(of(steep(9)).exchanges(3, 1), 2);
         says(15, "a GAIN of 0 is not counted");
         due(of("a;b3;c0;+ab1,9;-ac1,9;+bc1,9;").exchanges(1, 2), 0);
+        says(15, "a DEAD LINE is no TIE: it is not counted");
+        TieOffice dead = of("a;d;b3;c3;+ab2,9;+ac2,9;-db1,9;-dc1,9;");
+        due(dead.exchanges(2, 0), 1);
+        due(dead.back(), 1);
+        due(dead.falls(3), 0);
+        due(dead.exchanges(2, 0), 0);
+        says(15, "they are counted anew each time");
+        TieOffice again = of(LOOP);
+        again.best(0);
+        due(again.exchanges(3, 0), 2);
+        due(again.exchanges(0, 2), 0);
+        due(again.exchanges(2, 3), 2);
         says(15, "in the dark it MAY be, too");
         TieOffice x = of(DARK_LOOP);
         due(x.exchanges(2, 0), 0);
@@ -279,6 +306,12 @@ public final class EdgeExchangeTest extends Checks {
         TieOffice u = of("a;d;b1;+ab2,9;-db1,9;");
         due(u.best(0), 1);
         due(u.best(1), 0);
+        says(16, "NONE: a DEAD LINE is no TIE");
+        TieOffice v = of(LOOP);
+        due(v.best(0), 3);
+        v.falls(3);
+        due(v.best(0), NONE);
+        due(v.best(1), NONE);
         says(16, "NONE in the dark");
         due(of(DARK_LOOP).best(0), NONE);
     }
@@ -300,6 +333,11 @@ public final class EdgeExchangeTest extends Checks {
         due(z.gain(15, 7), 896);
         due(z.gain(15, 8), 896);
         due(z.best(1), 7);
+        says(16, "l, of its RING: a longer RING that was looked at ahead of it is no matter");
+        TieOffice u = of("a;f;b3;c3;d3;e9;+ab1,99;+cd1,99;+bc1,99;-da1,99;+ae5,99;-ef1,99;");
+        due(u.gain(5, 4), 324);
+        due(u.best(0), 5);
+        due(u.best(1), 4);
         says(16, "a higher t with more GAIN goes ahead");
         TieOffice w = of("a;d;b3;c4;+ab2,9;+ac2,9;-db1,9;-dc1,9;");
         due(w.best(0), 3);
@@ -317,6 +355,7 @@ public final class EdgeExchangeTest extends Checks {
         due(z.lessens(), 1);
         due(z.all(0), 234);
         due(z.best(0), NONE);
+        due(z.best(1), NONE);
         refuses(z, NO, z::lessens);
         says(17, "how often, and one STATE for all");
         TieOffice w = of("a;d;b3;c3;e3;+ab2,9;+ac2,9;+ae2,9;-db1,9;-dc1,9;-de1,9;");

@@ -11,6 +11,7 @@ public final class EdgeNetTest extends Checks {
         placeNumbers();
         placeLoads();
         placeHangs();
+        placesAlike();
         betweens();
         loadNumbers();
         loadRefused();
@@ -224,6 +225,39 @@ public final class EdgeNetTest extends Checks {
         for (int what = 1; what <= 3; what++) due(z.place(2, what), NONE);
     }
 
+    private static void placesAlike() {
+        says(6, "PLACES a .. p: each may be the FEEDER, or any on the way to it");
+        for (int turn = 0; turn < 16; turn++) {
+            TieOffice x = of(turned(chain(15, 2, "1,99"), turn));
+            for (int i = 0; i < 16; i++) {
+                int v = (i + turn) % 16;
+                due(x.place(v, 1), turn);
+                due(x.place(v, 3), i);
+                due(x.place(v, 4), 2 * Math.min(15, 16 - i));
+            }
+            due(x.all(7), 4 * 1240);
+        }
+        says(6, "PLACES a .. p: each may be DARK");
+        for (int turn = 0; turn < 16; turn++) {
+            TieOffice x = of(turned("a9;b;c5;d4;+bc3,9;-ab1,8;+ad1,9;", turn));
+            due(x.place(turn, 1), NONE);
+            due(x.all(2), 13);
+            due(x.all(5), 2);
+            due(x.all(7), 75);
+            int t = 1;
+            refuses(x, FULL, () -> x.closes(t));
+            due(x.opens(2), 0);
+            due(x.all(2), 13);
+        }
+        says(6, "the last of 24 LINES, at the highest PLACE");
+        TieOffice y = of(brimful().replace("d;", "d1;").replace("l1;", "l;").replace("-cf1,1;", "+le1,1;"));
+        due(y.told(6), 24);
+        due(y.place(4, 1), 11);
+        due(y.place(4, 2), 23);
+        due(y.line(23, 6), 11);
+        due(y.all(1), 1);
+    }
+
     private static void betweens() {
         says(7, "The LINE between two PLACES: either way round, LINE 0 and LINE 23, too");
         TieOffice x = of(brimful());
@@ -371,6 +405,10 @@ public final class EdgeNetTest extends Checks {
         TieOffice u = of("a;d;b1;+ab1,9;-db1,0;");
         refuses(u, NO, () -> u.closes(1));
         due(u.told(2), 0);
+        says(9, "NO is no hindrance to the next one");
+        TieOffice v = of("a;d;b1;c1;+ab1,9;-db1,9;-dc1,9;");
+        due(v.closes(1), NO);
+        due(v.closes(2), 1);
     }
 
     private static void closesBears() {

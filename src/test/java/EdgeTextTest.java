@@ -186,6 +186,16 @@ public final class EdgeTextTest extends Checks {
         due(x.place(1, 0), NONE);
         due(x.place(2, 0), 7);
         due(x.between(1, 2), NONE);
+        says(4, "tells all anew: a FEEDER that was a CUSTOMER has no LOAD, a CUSTOMER that was a FEEDER has one");
+        due(x.place(1, 4), 0);
+        due(x.all(1), 0);
+        due(x.all(2), 7);
+        types(x, "b3;c;+cb1,9;");
+        due(x.reads(), 3);
+        due(x.place(1, 0), 3);
+        due(x.place(2, 0), NONE);
+        due(x.all(1), 3);
+        due(x.all(2), 0);
         says(4, "tells all anew: what was DEAD, switched, loaded is as told");
         TieOffice y = of(TWO);
         y.falls(0);
@@ -425,6 +435,11 @@ public final class EdgeTextTest extends Checks {
         says(4, "a ring that is closed by joining two chains");
         due(fault("b1;c1;d1;e1;+bc1,1;+de1,1;+cd1,1;+eb1,1;"), 33);
         due(fault("b1;c1;d1;e1;+bc1,1;+de1,1;+cd1,1;-eb1,1;"), -1);
+        says(4, "a ring, whichever PLACES it goes by");
+        for (int turn = 0; turn < 16; turn++) {
+            due(fault(turned("a1;b1;c1;+ba1,1;+ac1,1;+cb1,1;", turn)), 23);
+            due(fault(turned("a1;b1;c1;d1;+ab1,1;+cd1,1;+bd1,1;+ca1,1;", turn)), 33);
+        }
         says(4, "an OPEN LINE makes none");
         due(fault("b1;c1;d1;-bc1,1;+cd1,1;+bd1,1;"), -1);
         due(fault("b1;c1;d1;+bc1,1;+cd1,1;-bd1,1;"), -1);
@@ -440,6 +455,16 @@ public final class EdgeTextTest extends Checks {
         due(fault("a;b;c1;d1;+ac1,1;+bd1,1;+cd1,1;"), 24);
         due(fault("a;b;c1;d1;+cd1,1;+ac1,1;+bd1,1;"), 24);
         due(fault("a;b;c1;d1;+cd1,1;+ac1,1;-bd1,1;"), -1);
+        says(4, "join two FEEDERS: one that was told behind LINES");
+        due(fault("a;c1;+ca1,1;b;+ab1,1;"), 14);
+        due(fault("a;c1;+ac1,1;b;+bc1,1;"), 14);
+        due(fault("c1;d1;+cd1,1;a;+ad1,1;b;+cb1,1;"), 24);
+        says(4, "join two FEEDERS, whichever PLACES they are");
+        for (int turn = 0; turn < 16; turn++) {
+            due(fault(turned("a;b;c1;+ac1,1;+cb1,1;", turn)), 14);
+            due(fault(turned("a;b;c1;+ca1,1;+bc1,1;", turn)), 14);
+            due(fault(turned("c;b;a1;d1;+cb1,1;", turn)), 10);
+        }
         says(4, "the 4th FEEDER is one, too");
         due(fault("a;b;c;d;e1;+ae1,1;+de1,1;"), 18);
     }

@@ -64,7 +64,11 @@ public final class EdgeToldTest extends Checks {
         due(x.cure(3, 0), NONE);
         due(x.told(1), 0);
         says(19, "no TIES are one, too: there is no FEEDER");
-        cureIs(of("b1;c1;-bc1,9;"), 0, 0, 0);
+        TieOffice dark = of("a;b1;c1;-ab1,9;-bc1,9;");
+        cureIs(dark, 3, 2, 2);
+        types(dark, "b1;c1;-bc1,9;");
+        dark.reads();
+        cureIs(dark, 0, 0, 0);
         says(19, "no TIES are one, too: nothing BEARS");
         cureIs(of("a;b4;-ab1,3;"), 0, 0, 0);
         says(19, "each with a DARK PLACE: not one between LIT ones");
@@ -77,6 +81,8 @@ public final class EdgeToldTest extends Checks {
         cureIs(of("a;d;b4;c5;-ab1,9;-bc1,9;-cd1,9;"), 3, 2, 9);
         says(19, "leave it RADIAL: no ring");
         cureIs(of("a;b4;c5;-ab1,9;-bc1,9;-ac1,9;"), 3, 2, 9);
+        says(19, "leave it RADIAL: a set that does not is no hindrance to the next one");
+        cureIs(of("a;d;b4;c5;-ab1,9;-db1,9;-ac1,9;"), 5, 2, 9);
         says(19, "bits: LINE 23");
         TieOffice z = of(brimful());
         for (int l = 0; l < 23; l++) z.falls(l);
@@ -97,6 +103,14 @@ public final class EdgeToldTest extends Checks {
         cureIs(of("a;b7;c2;+bc1,1;-ab1,99;"), 0, 0, 0);
     }
 
+    /** 12 CUSTOMERS, of LOADS from one on by steps, each with a TIE to b, which bears so much. */
+    private static String twelve(int first, int step, int limit) {
+        StringBuilder text = new StringBuilder("a;b0;");
+        for (int i = 0; i < 12; i++) text.append((char) ('c' + i)).append(first + i * step).append(';');
+        for (int i = 0; i < 12; i++) text.append("-b").append((char) ('c' + i)).append("1,99;");
+        return text + "+ab1," + limit + ";";
+    }
+
     private static void cureOfLike() {
         says(19, "the LOADS of all LIT CUSTOMERS are most, not the CUSTOMERS");
         cureIs(of("a;b0;c4;d4;e9;+ab1,9;-bc1,9;-bd1,9;-be1,9;"), 8, 1, 9);
@@ -110,6 +124,17 @@ public final class EdgeToldTest extends Checks {
         cureIs(of("a;b0;c5;d5;+ab1,5;-bc1,9;-bd1,9;"), 2, 1, 5);
         says(19, "the lowest as bits: 1 and 2 are lower than 0 and 3");
         cureIs(of("a;b0;c1;d2;e3;f4;-bc1,9;-bd1,9;-be1,9;-bf1,9;+ab1,5;"), 6, 2, 5);
+        says(19, "the lowest as bits: of 12 TIES, LOADS 1 .. 12, of which 40 can be LIT");
+        // 12, 11, 9, 8 and 12, 11, 10, 7 are the only fours.
+        cureIs(of(twelve(1, 1, 40)), 1 << 11 | 1 << 10 | 1 << 8 | 1 << 7, 4, 40);
+        cureIs(of(twelve(12, -1, 40)), 1 << 0 | 1 << 1 | 1 << 3 | 1 << 4, 4, 40);
+        says(19, "the most of 12 TIES: all but the least, all");
+        cureIs(of(twelve(1, 1, 77)), 4094, 11, 77);
+        cureIs(of(twelve(12, -1, 77)), 2047, 11, 77);
+        cureIs(of(twelve(1, 1, 78)), 4095, 12, 78);
+        // Left out are 1, 2, 3, 6 or 1, 2, 4, 5.
+        cureIs(of(twelve(1, 1, 66)), 4095 - (1 << 0 | 1 << 1 | 1 << 2 | 1 << 5), 8, 66);
+        cureIs(of(twelve(12, -1, 66)), 4095 - (1 << 11 | 1 << 10 | 1 << 9 | 1 << 6), 8, 66);
     }
 
     private static void orderIs(TieOffice x, int... order) {
@@ -173,6 +198,8 @@ public final class EdgeToldTest extends Checks {
         due(x.all(1), 9);
         due(x.told(7), 2);
         says(20, "NO: it has none: all are LIT");
+        cureIs(x, 0, 0, 9);
+        due(x.cure(3, 0), NONE);
         refuses(x, NO, x::cures);
         due(x.back(), 1);
         due(x.all(5), 2);
